@@ -11,8 +11,7 @@ public final class CandleTurns {
     private static final int HOLDS_NOTHING = 0, HOLDS_FLAME = 1, HOLDS_SHEET = 2, HOLDS_NUMBER = 3;
     private static final int SOON_MOST = 200, PERIOD_MOST = 300, BASIN_TICKS = 30, QUIET_TICKS = 10, QUIET_STEP = 3, LEARNT_MOST = 29;
 
-    // One law more than may be told: a text is read into the free one before it is known whether there is room for it.
-    private final Law[] laws = new Law[TEXTS_MOST + 1];
+    private final Law[] laws;
     private final Room now;
     private final Room thought;
     private final Room image;
@@ -21,24 +20,23 @@ public final class CandleTurns {
     private final Slot[] slots = new Slot[SLOTS];
     private final int[] waiting = new int[WAITING_MOST];
     private int waits = 0;
-    private final byte[] tape = new byte[TAPE_MOST];
-    private int fed = 0;
-    private final Reader reader;
+    private final Tape tape = new Tape();
 
     public CandleTurns() {
-        for (int i = 0; i < laws.length; i++) {
-            laws[i] = new Law();
+        Law[] shared = new Law[TEXTS_MOST];
+        for (int i = 0; i < TEXTS_MOST; i++) {
+            shared[i] = new Law();
         }
-        now = new Room(laws);
-        thought = new Room(laws);
-        image = new Room(laws);
+        laws = shared;
+        now = new Room(shared);
+        thought = new Room(shared);
+        image = new Room(shared);
         for (int i = 0; i < SHEETS; i++) {
             sheets[i] = new Row();
         }
         for (int i = 0; i < SLOTS; i++) {
             slots[i] = new Slot();
         }
-        reader = new Reader(tape, laws[0]);
     }
 
     // ---- flames
@@ -313,43 +311,38 @@ public final class CandleTurns {
     // ---- texts
 
     public int feed(int a, int b, int c) {
-        if (fed + 12 > TAPE_MOST) {
+        if (tape.length + 12 > TAPE_MOST) {
             return FULL;
         }
-        feedOne(a);
-        feedOne(b);
-        feedOne(c);
-        return fed;
-    }
-
-    private void feedOne(int four) {
-        for (int shift = 24; shift >= 0 && fed < TAPE_MOST; shift -= 8) {
-            tape[fed] = (byte) (four >>> shift);
-            fed++;
-        }
+        tape.addFour(a);
+        tape.addFour(b);
+        tape.addFour(c);
+        return tape.length;
     }
 
     public int trim(int n) {
-        if (!isWithin(n, 0, fed)) {
+        if (!isWithin(n, 0, tape.length)) {
             return BAD;
         }
-        fed = n;
+        tape.length = n;
         return n;
     }
 
     public int text() {
-        int length = fed;
-        fed = 0;
-        // No image counts a text from this number on, so the law that is written over is nobody's.
-        int number = now.texts;
-        int fault = reader.faultOf(length, laws[number]);
+        int fault = tape.faultOf();
+        tape.length = 0;
         if (fault >= 0) {
             return -100 - fault;
         }
+        int number = now.texts;
         if (number >= TEXTS_MOST) {
             return FULL;
         }
-        now.counting[laws[number].key] = number;
+        // No image counts a text from this number on, so the law that the tape takes in exchange is nobody's.
+        Law told = tape.law;
+        tape.law = laws[number];
+        laws[number] = told;
+        now.counting[told.key] = number;
         now.texts = number + 1;
         return number;
     }
@@ -580,7 +573,7 @@ public final class CandleTurns {
             case 4: return now.far;
             case 5: return now.texts;
             case 6: return waits;
-            case 7: return fed;
+            case 7: return tape.length;
             case 8: return now.z;
             default: return BAD;
         }
@@ -1047,8 +1040,8 @@ public final class CandleTurns {
         }
     }
 
-    /** Reads the tape into a law, by words and signs; -1 goes up through all calls from the fault on. */
-    private static final class Reader {
+    /** The tape, and its reading, by words and signs, into a law of its own; -1 goes up through all calls from the fault on. */
+    private static final class Tape {
         // Signs are their byte, 0 to 255; what is no sign stands below.
         static final int END = -1, LETTERS = -2, DIGITS = -3, STUCK = -4;
         static final int BLANK = 32, OPEN_MOST = 8, DIGITS_MOST = 4, LEVEL_OF_TESTS = 2, LEVEL_OF_PIECES = 5;
@@ -1057,31 +1050,31 @@ public final class CandleTurns {
         // Three for each key, in the order in which a law is given them; '.' is no letter.
         static final String NAME_LETTERS = "sn.dpstn.";
 
-        final byte[] tape;
+        final byte[] bytes = new byte[TAPE_MOST];
         int length = 0;
         int start = 0;
         int end = 0;
         int sort = END;
         int fault = -1;
-        Law law;
+        Law law = new Law();
 
-        Reader(byte[] tape, Law first) {
-            this.tape = tape;
-            this.law = first;
+        void addFour(int four) {
+            for (int shift = 24; shift >= 0 && length < TAPE_MOST; shift -= 8) {
+                bytes[length] = (byte) (four >>> shift);
+                length++;
+            }
         }
 
-        int faultOf(int newLength, Law into) {
-            length = held(newLength, 0, TAPE_MOST);
+        int faultOf() {
             end = 0;
             sort = END;
             fault = -1;
-            law = into;
             advance();
             int key = sort == LETTERS ? keyOfWord() : -1;
             if (key < 0) {
                 return start;
             }
-            into.begin(key);
+            law.begin(key);
             advance();
             int whole = chain(0, 0, 0);
             if (whole >= 0 && sort != END) {
@@ -1099,7 +1092,7 @@ public final class CandleTurns {
             boolean isBehindWord = sort == LETTERS || sort == DIGITS;
             int from = end;
             start = from;
-            while (start < length && tape[start] == BLANK) {
+            while (start < length && bytes[start] == BLANK) {
                 start++;
             }
             end = start;
@@ -1117,7 +1110,7 @@ public final class CandleTurns {
         }
 
         int sortAt(int place) {
-            int sign = tape[place] & 255;
+            int sign = bytes[place] & 255;
             if (isWithin(sign, 'a', 'z')) {
                 return LETTERS;
             }
@@ -1128,7 +1121,7 @@ public final class CandleTurns {
             for (int key = 0; key < KEYS && end - start == KEY_LENGTH; key++) {
                 int same = 0;
                 for (int i = 0; i < KEY_LENGTH; i++) {
-                    same += tape[start + i] == KEY_WORDS.charAt(KEY_LENGTH * key + i) ? 1 : 0;
+                    same += bytes[start + i] == KEY_WORDS.charAt(KEY_LENGTH * key + i) ? 1 : 0;
                 }
                 if (same == KEY_LENGTH) {
                     return key;
@@ -1198,14 +1191,14 @@ public final class CandleTurns {
             }
             int v = 0;
             for (int i = start; i < end; i++) {
-                v = 10 * v + tape[i] - '0';
+                v = 10 * v + bytes[i] - '0';
             }
             advance();
             return law.addLeaf(Law.NUMBER, v);
         }
 
         int name() {
-            int letter = tape[start];
+            int letter = bytes[start];
             for (int i = 0; i < NAMES_OF_KEY && end - start == 1; i++) {
                 if (NAME_LETTERS.charAt(NAMES_OF_KEY * law.key + i) == letter) {
                     advance();

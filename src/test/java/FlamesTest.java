@@ -311,6 +311,15 @@ public final class FlamesTest {
         DUE.due("no room", x.deal(8), 0);
         DUE.due("no draws without room", x.count(8), z);
         DUE.due("bad without room", x.deal(9), BAD);
+        CandleTurns one = new CandleTurns();
+        one.seed(2);
+        DUE.due("deal 1", one.deal(1), 1);
+        int fifth = 2;
+        for (int i = 0; i < 5; i++) {
+            fifth = fifth * 1103515245 + 12345;
+        }
+        DUE.due("its phase", one.told(0, 4), (fifth >>> 8) % 120);
+        DUE.due("deal 8", new CandleTurns().deal(8), 8);
     }
 
     static void promise12Seed() {

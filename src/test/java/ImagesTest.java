@@ -90,6 +90,10 @@ public final class ImagesTest {
             tellAll(most, 0, i % 12 == 0 ? 1 : 0);
         }
         DUE.due("30 ticks", most.check(30), 0);
+        for (int i = 1; i <= 30; i++) {
+            tellAll(most, 0, i % 12 == 0 || i == 30 ? 1 : 0);
+        }
+        DUE.due("30 ticks, the last not", most.check(30), 60);
         CandleTurns wind = new CandleTurns();
         wind.flame(5, 0, 2);
         wind.keep();
@@ -126,7 +130,7 @@ public final class ImagesTest {
         x.keep();
         String was = Due.state(x);
         for (int again = 0; again < 3; again++) {
-            x.run(9);
+            x.run(60);
             x.glass(0, 1, 0);
             x.reach(0, 1);
             x.reach(1, 1);
@@ -145,6 +149,14 @@ public final class ImagesTest {
             DUE.due("the law of pace", x.told(0, 7), 3);
             DUE.due("the law of wind", x.why(2), NONE);
         }
+        x.deal(3);
+        x.set(2, 1, 119);
+        x.run(60);
+        x.back();
+        x.flame(0, 0, 1);
+        DUE.due("a new flame has phase 0", x.told(2, 4), 0);
+        DUE.due("a new flame has gas", x.told(2, 5), 999);
+        DUE.due("a new flame did not flash", x.told(2, 6), 0);
         x.deal(3);
         DUE.due("a new flame has no glass", x.glass(0, 3, 0), 0);
         DUE.due("texts go on from there", Due.text(x, "wind 5"), 2);

@@ -41,10 +41,11 @@ public final class SheetsTest {
         DUE.due("all 0", at(x, 0, 0) | at(x, 0, 23), 0);
         DUE.due("no 25th", at(x, 0, 24), INDEX);
         x.mark(0, 3, 7);
+        x.mark(0, 0, 7);
         DUE.due("refused", x.sheet(0, 0, -1), SIZE);
         DUE.due("it stays", at(x, 0, 3), 7);
         DUE.due("anew", x.sheet(0, 0, 5), 5);
-        DUE.due("all 0 anew", at(x, 0, 3), 0);
+        DUE.due("all 0 anew", at(x, 0, 0) | at(x, 0, 3), 0);
         DUE.due("0 places", x.sheet(1, 1, 0), 0);
         DUE.due("it is there", x.reads(1), NONE);
         DUE.due("missing, of any n", x.sheet(0, -1, -9), 0);

@@ -56,6 +56,9 @@ public final class TextsTest {
     static void promise24Text() {
         CandleTurns x = new CandleTurns();
         DUE.due("an empty tape", x.text(), -100);
+        x.feed(0x20202020, 0x20202020, 0x20202020);
+        x.trim(0);
+        DUE.due("a tape that is empty again", x.text(), -100);
         Due.put(x, "pace 7 x".getBytes(StandardCharsets.ISO_8859_1));
         DUE.due("a fault", x.text(), -107);
         DUE.due("a fault uses the tape up", x.count(7), 0);
@@ -72,8 +75,17 @@ public final class TextsTest {
         x.flame(0, 0, 1);
         x.flame(0, 0, 1);
         DUE.due("what counts is as it was", x.push(0, 1), 13);
+        CandleTurns again = new CandleTurns();
         String longest = "pace 1" + "+1".repeat(45);
-        DUE.due("96 bytes", new CandleTurns().trim(0) + Due.text(new CandleTurns(), longest), 0);
+        for (int i = 0; i < 3; i++) {
+            DUE.due("a long fault", Due.text(again, longest.substring(0, 95)), -195);
+        }
+        DUE.due("96 bytes", Due.text(again, longest), 0);
+        DUE.due("numbers of the last text alone", again.textTold(0, 1), 46);
+        again.flame(0, 0, 1);
+        DUE.due("what it gives is held", again.told(0, 7), 40);
+        DUE.due("5 less, 40 more", Due.text(again, "pace 1" + "-1".repeat(5) + "+1".repeat(40)), 1);
+        DUE.due("what that gives", again.told(0, 7), 36);
     }
 
     static void fault(String text, int place) {
@@ -86,12 +98,12 @@ public final class TextsTest {
         for (String s : good) {
             fault(s, -1);
         }
-        String[] bad = {"", "   ", "pac", "  pac 1", "pacee 1", "paces", "Pace 1", "1", "pace", "pace ", "pace  ", "pace1", "pace 1 2", "pace 1s", "pace s1",
+        String[] bad = {"", "   ", "pac", "  pac 1", "pacee 1", "paces", "Pace 1", "abcd 1", "1", "pace", "pace ", "pace  ", "pace1", "pace 1 2", "pace 1s", "pace s1",
             "pace s n", "pace d", "join n", "join t", "wind s", "wind p", "pace ss", "pace 12345", "pace 00001", "pace 1+", "pace 1+ ", "pace +1", "pace 1++1",
             "pace -1", "pace 1<2<3", "pace 1=2>3", "pace 1<2+3=4", "pace (1", "pace (1 ", "pace 1)", "pace ()", "pace (1))", "pace 1!", "pace 1 !1", "pace 1(2)",
             "pace !", "pace !)", "pace 1 & ", "pace |1", "pace 1\t", "pace\t1", "pace 1\u00e9", "\u0000pace 1", "pace 1.5", "pace 1==2", "pace 1<=2", "pace pace", "pace (1<2<3)",
             "pace 1 12345", "pace 12345s", "pace 1+d", "join p wind", "pace (s1)", "pace(1 2)", "windt", "wind t 1", "pace 1 +  12345"};
-        int[] places = {0, 3, 0, 2, 0, 0, 0, 0, 4, 5, 6, 4, 7, 6, 6,
+        int[] places = {0, 3, 0, 2, 0, 0, 0, 0, 0, 4, 5, 6, 4, 7, 6, 6,
             7, 5, 5, 5, 5, 5, 5, 5, 5, 7, 8, 5, 7,
             5, 8, 8, 10, 7, 8, 6, 6, 8, 6, 7, 6,
             6, 6, 9, 5, 6, 4, 6, 0, 6, 7, 7, 5, 9,

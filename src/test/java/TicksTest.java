@@ -13,6 +13,7 @@ public final class TicksTest {
         promise19Basin();
         promise20Quiet();
         promise21Learn();
+        eightFlames();
         DUE.end();
     }
 
@@ -53,11 +54,13 @@ public final class TicksTest {
         int[] by4 = {4, 8, -4, 11, 0};
         int[] by5 = {5, 10, -5, 13, -5};
         int[] byLess4 = {-4, -8, 4, -5, 0};
+        int[] byLess5 = {-5, -10, 5, -7, 5};
         for (int kind = 0; kind < 5; kind++) {
             DUE.due("10 on kind " + kind, oneOf(kind, 90), 50 + pace[kind] + by10[kind]);
             DUE.due("4 on kind " + kind, oneOf(kind, 66), 50 + pace[kind] + by4[kind]);
             DUE.due("5 on kind " + kind, oneOf(kind, 70), 50 + pace[kind] + by5[kind]);
             DUE.due("-4 on kind " + kind, oneOf(kind, 34), 50 + pace[kind] + byLess4[kind]);
+            DUE.due("-5 on kind " + kind, oneOf(kind, 30), 50 + pace[kind] + byLess5[kind]);
         }
     }
 
@@ -166,6 +169,9 @@ public final class TicksTest {
         for (int i = 0; i < ws.length; i++) {
             DUE.due("steps 10, 40, 60, 10: groups for " + ws[i], x.groups(ws[i]), due[i]);
         }
+        x.set(1, 1, 0);
+        DUE.due("0 twice, 10, 50, 110", x.groups(9), 4);
+        x.set(1, 1, 10);
         x.set(3, 2, 0);
         DUE.due("one is out", x.groups(10), 1);
         for (int w : new int[] {-1, 120, Integer.MAX_VALUE}) {
@@ -202,6 +208,9 @@ public final class TicksTest {
         DUE.due("the one is out behind 200 ticks: that still counts", x.soon(39), 200);
         x.set(0, 0, 4);
         DUE.due("249 ticks are too many", x.soon(39), NONE);
+        x.set(0, 0, 1);
+        x.set(0, 2, 201);
+        DUE.due("201 are", x.soon(39), NONE);
         nothingChanges("soon", 0);
         DUE.due("soon 120", x.soon(120), BAD);
         DUE.due("soon -1", x.soon(-1), BAD);
@@ -229,7 +238,18 @@ public final class TicksTest {
         DUE.due("paces 8 and 10", x.period(), 60);
         Due.text(x, "pace 1-n");
         DUE.due("paces 1 and 0", x.period(), 120);
+        DUE.due("300 are the most", periodOf(300), 300);
+        DUE.due("301 are too many", periodOf(301), NONE);
         nothingChanges("period", 1);
+    }
+
+    /** One in a draught goes away with the first tick and comes back with the last of so many. */
+    static int periodOf(int ticks) {
+        CandleTurns x = new CandleTurns();
+        x.flame(5, 0, 1);
+        Due.text(x, "pace 0");
+        Due.text(x, "wind (t=0)*10-(t=" + (ticks - 1) + ")*10-2");
+        return x.period();
     }
 
     static void promise18Film() {
@@ -274,6 +294,7 @@ public final class TicksTest {
         x.set(1, 2, 1);
         DUE.due("none at the end", x.basin(119), 0);
         firstTwoThatAreLit();
+        basinIsBehind30Ticks();
         nothingChanges("basin", 3);
     }
 
@@ -289,6 +310,17 @@ public final class TicksTest {
         DUE.due("the third stays at 0", x.basin(0), 1);
         x.set(2, 1, 40);
         DUE.due("the third stays at 40", x.basin(0), 1);
+    }
+
+    /** One in a draught goes on by 10 in the 30th tick and in the 31st: alike is nobody behind the 30th alone. */
+    static void basinIsBehind30Ticks() {
+        CandleTurns x = new CandleTurns();
+        x.flame(5, 0, 1);
+        x.flame(4, 2929, 1);
+        Due.text(x, "pace 0");
+        Due.text(x, "wind ((t=29)+(t=30))*10-2");
+        DUE.due("10 or more apart", x.basin(9), 0);
+        DUE.due("10 apart", x.basin(10), 12);
     }
 
     static void promise20Quiet() {
@@ -317,6 +349,16 @@ public final class TicksTest {
         x.move(1, 2926);
         DUE.due("at the edge", x.quiet(0, 1), 2628);
         DUE.due("at the edge, the spread", x.quiet(0, 0), 30);
+        x.move(0, 1010);
+        x.move(1, 1818);
+        DUE.due("beyond 3 more of each", x.quiet(0, 0), 50);
+        x.move(1, 1516);
+        DUE.due("3 more of both alone", x.quiet(0, 1), 1313);
+        x.move(1, 1810);
+        DUE.due("3 more of x alone", x.quiet(0, 1), 1310);
+        x.move(1, 1018);
+        DUE.due("3 more of y alone", x.quiet(0, 1), 1013);
+        x.move(0, 2929);
         x.move(1, 0);
         DUE.due("beyond all reach", x.quiet(0, 0), 50);
         DUE.due("of several the first", x.quiet(0, 1), 2626);
@@ -351,8 +393,12 @@ public final class TicksTest {
         DUE.due("not pushed: from 0 on", x.learn(0, 0), 0);
         x.mark(0, 0, 6);
         DUE.due("never so: the least", x.learn(0, 0), 0);
-        x.move(1, 2929);
         x.mark(0, 0, 17);
+        x.move(1, 1514);
+        DUE.due("29 is tried", x.learn(0, 0), 29);
+        x.move(1, 1515);
+        DUE.due("30 is not", x.learn(0, 0), 0);
+        x.move(1, 2929);
         DUE.due("58 is more than is tried", x.learn(0, 0), 0);
         x.reach(0, 59);
         DUE.due("tried is what is tried", x.learn(0, 0), 0);
@@ -389,6 +435,30 @@ public final class TicksTest {
         x.mark(2, 0, 0);
         x.mark(2, 1, 17);
         DUE.due("place 1 is two", x.learn(2, 0), 0);
+    }
+
+    /** As many as there may be, all in the air of one another, alike in all things: so they stay. */
+    static void eightFlames() {
+        CandleTurns x = new CandleTurns();
+        for (int i = 0; i < 8; i++) {
+            x.flame(0, 1010, 2);
+        }
+        x.sheet(0, 0, 1);
+        x.mark(0, 0, 10);
+        DUE.due("all push", x.told(7, 8), 0);
+        DUE.due("all flash", x.run(12), 8);
+        DUE.due("all are alike", x.spread(), 0);
+        DUE.due("in one group", x.groups(0), 1);
+        DUE.due("at once", x.soon(0), 0);
+        DUE.due("period", x.period(), 12);
+        DUE.due("film", x.film(7, 5), 50);
+        DUE.due("learn", x.learn(0, 7), 0);
+        DUE.due("quiet", x.quiet(7, 0), 0);
+        DUE.due("all are lit", x.count(1), 8);
+        Due.text(x, "join 3");
+        DUE.due("pushed by seven", x.told(7, 8), 21);
+        x.run(1);
+        DUE.due("pushed on by seven", x.told(7, 4), 10 + 21);
     }
 
     static void nothingChanges(String name, int which) {
