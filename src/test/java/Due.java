@@ -20,6 +20,10 @@ final class Due {
         due(what, is ? 1 : 0, 1);
     }
 
+    int wrong() {
+        return wrong;
+    }
+
     void end() {
         System.out.println(wrong == 0 ? asked + " answers are as due" : wrong + " of " + asked + " answers are not as due");
         if (wrong != 0) {
