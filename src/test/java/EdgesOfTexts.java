@@ -131,6 +131,16 @@ final class EdgesOfTexts {
         r.fault("pace ()", 6);
         r.fault("pace (1+)", 8);
         r.fault("pace !+1", 6);
+        r.fault("pace !+", 6);
+        r.fault("pace (+", 6);
+        r.fault("pace (+)", 6);
+        r.fault("pace (!*", 7);
+        r.fault("pace !(<", 7);
+        r.fault("pace 1+*", 7);
+        r.fault("pace 1<|", 7);
+        r.fault("pace 1&&", 7);
+        r.fault("pace d+", 5);
+        r.fault("pace 12345+", 5);
         r.fault("pace !)", 6);
         r.fault("pace 1(2)", 6);
         r.fault("pace (1)2", 8);
@@ -370,6 +380,7 @@ final class EdgesOfTexts {
             1, 1, 1, 0, 0, 0, 1, 0, 1, 0};
         for (int i = 0; i < es.length; i++) {
             gives(r, es[i], due[i]);
+            gives(r, "5+(" + es[i] + ")", 5 + due[i]);
         }
     }
 

@@ -11,6 +11,7 @@ final class EdgesOfThought {
         quietPlaces(r);
         quietAtTheEdges(r);
         quietIsBehind10Ticks(r);
+        quietWhereNoneIsLit(r);
         nearsThatAreTried(r);
         mostPlaces(r);
         placesAreTicks(r);
@@ -31,7 +32,12 @@ final class EdgesOfThought {
     static void firstTwoThatAreLit(Rows r) {
         r.begin("basin 60 = NO; flame 4 0 1; basin 60 = NO; flame 4 29 1; basin 60 = 36; set 0 2 0; basin 60 = NO; set 1 2 0; basin 60 = NO; set 0 2 1; set 1 2 1; basin 119 = 0");
         r.begin("flame 4 0 1; flame 4 29 1; flame 4 2900 1; flame 4 2929 1; set 0 2 0; set 2 2 0; set 0 1 5; set 2 1 65; basin 0 = 6; basin 60 = 36");
-        r.go("set 0 2 999; set 2 2 999; set 3 1 65; basin 4 = 0; basin 5 = 1; set 2 1 40; basin 5 = 0; set 2 1 60; basin 5 = 1; basin 4 = 0; set 3 2 0; basin 0 = 1");
+        r.begin("deal 8; basin 119 = 36");
+        for (int i = 0; i < 6; i++) {
+            r.go("set " + i + " 2 0; basin 119 = 36");
+        }
+        r.go("set 6 2 0; basin 119 = NO; set 7 2 0; basin 119 = NO; set 0 2 999; basin 119 = NO; set 7 2 999; basin 119 = 36");
+        r.begin("flame 4 0 1; flame 4 29 1; flame 4 2900 1; flame 4 2929 1; set 2 1 65; set 3 1 65; basin 4 = 0; basin 5 = 1; set 2 1 40; basin 5 = 0; set 2 1 60; basin 5 = 1; basin 4 = 0; set 3 2 0; basin 0 = 1");
     }
 
     /** One in a draught goes on by 10 in the 30th tick and in the 31st. */
@@ -111,6 +117,16 @@ final class EdgesOfThought {
         r.text("pace 0", "0");
         r.text("wind ((t=9)+(t=10))*10-2", "1");
         r.go("quiet 0 0 = 10; run 1; quiet 0 0 = 20; run 9; set 0 1 0; quiet 0 0 = 10; run 1; set 0 1 0; quiet 0 0 = 0");
+    }
+
+    /** Where none is LIT, all places count alike: the first is one that there is. */
+    static void quietWhereNoneIsLit(Rows r) {
+        int[] places = {0, 303, 304, 403, 29, 27, 2900, 2929, 2829, 1515};
+        int[] firsts = {0, 0, 1, 100, 26, 24, 2600, 2626, 2526, 1212};
+        r.begin("flame 0 0 1; set 0 2 10");
+        for (int i = 0; i < places.length; i++) {
+            r.go("move 0 " + places[i] + "; quiet 0 0 = NONE; quiet 0 1 = " + firsts[i]);
+        }
     }
 
     /** One that is pushed by 10, from 0 to 17, within NEAR; the other stands still, so far away. */

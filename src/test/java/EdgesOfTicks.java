@@ -223,6 +223,8 @@ final class EdgesOfTicks {
         r.go("groups 0 = 2; groups 59 = 2; groups 60 = 1; groups 61 = 1");
         phases(r, 0, 40, 40, 90);
         r.go("groups 29 = 3; groups 30 = 2; groups 39 = 2; groups 40 = 1; groups 49 = 1; groups 50 = 1; set 3 2 0; groups 39 = 2; groups 40 = 1; groups 79 = 1; groups 80 = 1");
+        phases(r, 40, 40, 80, 80);
+        r.go("set 0 2 0; set 2 2 0; groups 0 = 2; groups 39 = 2; groups 40 = 1; set 1 2 0; groups 0 = 1; set 3 2 0; groups 0 = 0");
         phases(r, 105, 15, 75, 45, 60, 30, 90, 0);
         r.go("groups 0 = 8; groups 14 = 8; groups 15 = 1; groups 119 = 1");
     }
@@ -262,6 +264,12 @@ final class EdgesOfTicks {
         r.begin("flame 0 0 2; flame 0 2929 4; period = 60; set 0 1 119; set 1 1 3; period = 60; run 7; period = 60");
         r.begin("flame 0 0 2; flame 4 2929 1; set 1 1 60; period = 12; set 0 2 24; period = 12; set 0 2 23; period = 12; set 0 2 22; period = NONE");
         r.begin("flame 0 0 2; set 0 2 0; flame 0 2929 2; period = 12");
+        r.begin();
+        for (int i = 0; i < 8; i++) {
+            r.go("flame 0 0 2; set " + i + " 1 " + i);
+        }
+        r.text("join 0", "0");
+        r.go("period = 12; set 7 0 3; period = 120; set 7 2 0; period = 12; set 7 2 3; period = NONE");
     }
 
     static void film(Rows r) {
