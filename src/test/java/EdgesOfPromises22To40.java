@@ -1,3 +1,5 @@
+import java.nio.charset.StandardCharsets;
+
 /** The edges of the document's promises 22 to 40: texts, sheets, slots, rows, images. */
 final class EdgesOfPromises22To40 {
     private EdgesOfPromises22To40() {
@@ -32,21 +34,16 @@ final class EdgesOfPromises22To40 {
         // "pace", " 10+", "s   "
         r.begin("feed " + 0x70616365 + " " + 0x2031302b + " " + 0x73202020 + " = 12; text = 0; flame 0 0 7; told 0 7 = 17");
         for (int at = 0; at < 12; at++) {
-            byte[] bytes = "pace 1111111".getBytes(java.nio.charset.StandardCharsets.ISO_8859_1);
-            java.util.Arrays.fill(bytes, 4, 12, (byte) 32);
+            byte[] bytes = "pace        ".getBytes(StandardCharsets.ISO_8859_1);
             bytes[at] = (byte) 200;
             r.begin("feed " + Due.four(bytes, 0) + " " + Due.four(bytes, 4) + " " + Due.four(bytes, 8) + " = 12; text = " + (-100 - (at < 4 ? 0 : at)));
         }
-        for (int length = 0; length <= 96; length += 1) {
-            int first = length / 12 * 12;
+        for (int length = 0; length <= 96; length++) {
             r.begin();
             for (int i = 0; i < 8 && i * 12 < length; i++) {
                 r.go("feed -1 -1 -1");
             }
             r.go("trim " + length, "feed 0 0 0 = " + (length <= 84 ? String.valueOf(length + 12) : "FULL"), "count 7 = " + (length <= 84 ? length + 12 : length));
-            if (first == length) {
-                r.go("trim 0 = 0; feed MIN MAX 0 = 12");
-            }
         }
         EdgesOfPromises1To21.busy(r);
         r.go("count 7 = 8; feed 0 0 0 = 20; feed 0 0 0 = 32; trim 8 = 8; text = 2; why 2 = 2");

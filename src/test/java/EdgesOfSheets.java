@@ -126,6 +126,24 @@ final class EdgesOfSheets {
         r.begin("flame 0 0 5; flame 0 0 5; set 0 1 110; set 1 1 118; keep; tell 4; tell 1; check 1 = 0; tell 4; tell 1; tell 2; tell 1; check 2 = 0; tell 8; tell 1; check 1 = 1; tell 4; tell 0");
         r.go("check 1 = 2; run 20; set 0 2 0; glass 0 1 1; tell 4; tell 1; tell 2; tell 1; check 2 = 0; tell 4; tell 1; tell 2; tell 0; check 2 = 4; count 2 = 20");
         r.begin("flame 0 0 5; set 0 2 10; keep; tell 0; tell 0; tell NONE; tell 0; tell NONE; tell 0; check 3 = 0; tell 0; tell 0; tell 0; tell 0; check 2 = 3");
+        ticksToldByTheImage(r);
         r.begin("keep; tell NONE; tell 0; check 1 = 0; flame 0 0 5; tell NONE; tell 0; check 1 = 0; tell 0; tell 0; check 1 = 1");
+    }
+
+    /** One in a draught and one that stands still: z, TICK and laws are those of the image. */
+    static void ticksToldByTheImage(Rows r) {
+        int z = EdgesOfTicks.drawn(77);
+        int first = 13 + (z >>> 8) % 11 - 5;
+        int second = first + 13 + (EdgesOfTicks.drawn(z) >>> 8) % 11 - 5;
+        String rows = "tell " + first + "; tell 0; tell " + second + "; tell 0; check 2 = 0";
+        r.begin("flame 5 0 1; flame 4 2929 1; seed 77; keep", rows, "seed 1", rows, "run 5", rows, "move 0 2928; reach 1 59; set 0 0 9; turns 0 3; glass 0 1 1", rows);
+        r.text("wind 30", "0");
+        r.text("pace 0", "1");
+        r.text("join 20", "2");
+        r.go(rows, "deal 6", rows, "back = 2", rows);
+        r.begin("flame 5 0 1; flame 4 2929 1; run 3; set 0 1 0");
+        r.text("pace 0", "0");
+        r.text("wind t*5", "1");
+        r.go("keep; tell 17; tell 0; tell 39; tell 0; check 2 = 0; run 9; tell 17; tell 0; tell 39; tell 0; check 2 = 0");
     }
 }

@@ -344,6 +344,13 @@ final class EdgesOfTexts {
         r.fault("pace " + "!(".repeat(8) + "(", 21);
         r.fault("pace " + "!(".repeat(8) + "!1", 21);
         r.fault("pace " + "!(".repeat(8) + "1" + ")".repeat(8) + "+" + "!(".repeat(8) + "1" + ")".repeat(8), GOOD);
+        r.fault("pace " + "!".repeat(8) + "(1+!1)", 16);
+        r.fault("pace " + "!".repeat(7) + "(1+!1)", GOOD);
+        r.fault("pace " + "!".repeat(7) + "(1+!!1)", 16);
+        r.fault("pace " + "(".repeat(8) + "1+!1" + ")".repeat(8), GOOD);
+        r.fault("pace " + "(".repeat(8) + "1<" + "!".repeat(8) + "1" + ")".repeat(8), GOOD);
+        r.fault("pace " + "!".repeat(8) + "1+" + "(".repeat(8) + "1" + ")".repeat(8), GOOD);
+        r.fault("pace " + "!".repeat(8) + "1+" + "(".repeat(9), 23);
         gives(r, "!".repeat(8) + "s", 1);
         gives(r, "!".repeat(7) + "s", 0);
     }

@@ -11,6 +11,7 @@ final class EdgesOfThought {
         quietPlaces(r);
         quietAtTheEdges(r);
         quietIsBehind10Ticks(r);
+        quietFromNowOn(r);
         quietWhereNoneIsLit(r);
         nearsThatAreTried(r);
         mostPlaces(r);
@@ -117,6 +118,18 @@ final class EdgesOfThought {
         r.text("pace 0", "0");
         r.text("wind ((t=9)+(t=10))*10-2", "1");
         r.go("quiet 0 0 = 10; run 1; quiet 0 0 = 20; run 9; set 0 1 0; quiet 0 0 = 10; run 1; set 0 1 0; quiet 0 0 = 0");
+    }
+
+    /** One in a draught: its winds are the same from all places, so the first is the least. */
+    static void quietFromNowOn(Rows r) {
+        int z = 4711;
+        int gone = 0;
+        for (int i = 0; i < 10; i++) {
+            z = EdgesOfTicks.drawn(z);
+            gone += 13 + (z >>> 8) % 11 - 5;
+        }
+        int apart = Math.floorMod(gone, 120);
+        r.begin("flame 5 1010 1; flame 4 2929 1; seed 4711; quiet 0 0 = " + Math.min(apart, 120 - apart) + "; quiet 0 1 = 707; quiet 1 1 = 2626; count 8 = 4711");
     }
 
     /** Where none is LIT, all places count alike: the first is one that there is. */

@@ -286,8 +286,26 @@ final class EdgesOfTicks {
         r.begin("seed 5; deal 3; flame 5 1010 3; flame 5 1212 3; set 1 1 119; set 2 2 7; sheet 0 0 5; tell 9; keep; run 2; glass 0 1 1");
         r.tape("join p/3");
         r.go("spread; groups 0; groups 119; soon 0; soon 30; soon 119; period; film 0 60; film 3 60; film 4 1; count 2 = 2");
+        windsInThought(r);
+        r.begin("flame 0 0 2; flame 5 1010 3; flame 5 1212 3; run 2");
         r.text("pace s+n", "0");
         r.text("wind t-n", "1");
-        r.go("soon 0; period; film 3 60; film 4 1; count 2 = 2");
+        r.go("soon 0; period; film 1 60; film 2 1; count 2 = 2");
+    }
+
+    /** One in a draught, and one that stands still at its place: winds that are thought are those that come. */
+    static void windsInThought(Rows r) {
+        int z = 31;
+        int gone = 0;
+        r.begin("flame 5 0 1; flame 4 2929 1; seed 31");
+        for (int k = 1; k <= 8; k++) {
+            z = drawn(z);
+            gone += 13 + (z >>> 8) % 11 - 5;
+            int p = Math.floorMod(gone, 120);
+            r.go("film 0 " + k + " = " + (p > 59 ? p - 120 : p));
+        }
+        r.go("run 8; film 1 1 = 0; count 8 = " + z + "; told 0 4 = " + Math.floorMod(gone, 120));
+        int first = 13 + (drawn(z) >>> 8) % 11 - 5;
+        r.go("set 0 1 0; set 1 1 " + first + "; soon 0 = 1; set 1 1 0; soon 0 = 0");
     }
 }
