@@ -5,7 +5,9 @@ import java.nio.file.Files;
 import java.nio.file.Path;
 import java.util.ArrayList;
 import java.util.List;
+import java.util.Map;
 import java.util.Set;
+import java.util.TreeMap;
 import java.util.TreeSet;
 import java.util.regex.Matcher;
 import java.util.regex.Pattern;
@@ -22,7 +24,9 @@ public final class LanguageTest {
         String source = Files.readString(Path.of("src/main/java/CandleTurns.java"));
         String bare = withoutTexts(source);
         wordsThatAreRuledOut(bare);
-        methodsAreShort(bare);
+        Map<String, String> bodies = bodies(bare);
+        callsMakeNothing(bodies);
+        callsAreNotDeep(bodies);
         DUE.end();
     }
 
@@ -88,21 +92,55 @@ public final class LanguageTest {
         DUE.holds("no sign above 127", bare.chars().allMatch(ch -> ch < 128));
     }
 
-    static void methodsAreShort(String bare) {
+    /** The bodies of all methods, by names; methods of one name in several classes stand together. */
+    static Map<String, String> bodies(String bare) {
+        Map<String, String> all = new TreeMap<>();
         String[] lines = bare.split("\n");
-        Pattern head = Pattern.compile("^( {4}| {8})(public |private |static |final )*[\\w\\[\\]<>]+ ?\\w*\\([^;]*\\) \\{$");
-        int methods = 0;
+        Pattern head = Pattern.compile("^( {4}| {8})(?:public |private |static |final )*(?:[\\w\\[\\]<>]+ )?(\\w+)\\([^;]*\\) \\{$");
         for (int i = 0; i < lines.length; i++) {
             Matcher m = head.matcher(lines[i].stripTrailing());
-            if (m.matches() && !lines[i].matches("\\s*(if|for|while|switch)\\b.*")) {
-                methods++;
-                int end = i;
+            if (m.matches() && !m.group(2).matches("if|for|while|switch")) {
+                StringBuilder body = new StringBuilder();
+                int end = i + 1;
                 while (end < lines.length && !lines[end].stripTrailing().equals(m.group(1) + "}")) {
+                    body.append(lines[end]).append('\n');
                     end++;
                 }
                 DUE.holds(lines[i].strip() + " is short", end - i <= 60);
+                all.merge(m.group(2), body.toString(), String::concat);
             }
         }
-        DUE.holds("methods were seen", methods > 60);
+        DUE.holds("methods were seen", all.size() > 60);
+        return all;
+    }
+
+    static void callsMakeNothing(Map<String, String> bodies) {
+        Set<String> constructors = new TreeSet<>();
+        classes().forEach(each -> constructors.add(each.getSimpleName()));
+        bodies.forEach((name, body) -> DUE.holds(name + " makes no object", constructors.contains(name) || !Pattern.compile("\\bnew\\b").matcher(body).find()));
+    }
+
+    static void callsAreNotDeep(Map<String, String> bodies) {
+        for (String name : bodies.keySet()) {
+            List<String> way = longestWay(name, bodies, new TreeSet<>());
+            DUE.holds(way + " is at most eight deep", way.size() <= 8);
+        }
+    }
+
+    /** The longest way of calls from a method on, on which none stands twice: rule 11 tells of calls that are no recursion. */
+    static List<String> longestWay(String name, Map<String, String> bodies, Set<String> open) {
+        open.add(name);
+        List<String> longest = List.of();
+        Matcher m = Pattern.compile("\\b(\\w+)\\(").matcher(bodies.get(name));
+        while (m.find()) {
+            if (bodies.containsKey(m.group(1)) && !open.contains(m.group(1))) {
+                List<String> way = longestWay(m.group(1), bodies, open);
+                longest = way.size() > longest.size() ? way : longest;
+            }
+        }
+        open.remove(name);
+        List<String> all = new ArrayList<>(List.of(name));
+        all.addAll(longest);
+        return all;
     }
 }
